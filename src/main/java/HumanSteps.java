@@ -262,6 +262,14 @@ public final class HumanSteps {
         }
     }
 
+    private static int leastBit(int bits) {
+        int at = 0;
+        while (at < 31 && (bits >> at & 1) == 0) {
+            at++;
+        }
+        return at;
+    }
+
     /** The steps' names in both languages, by the steps' numbers. */
     private enum Name {
         LAST("last", "letzte"),
@@ -521,14 +529,6 @@ public final class HumanSteps {
             }
             return leastBit(rest);
         }
-    }
-
-    private static int leastBit(int bits) {
-        int at = 0;
-        while (at < 31 && (bits >> at & 1) == 0) {
-            at++;
-        }
-        return at;
     }
 
     /**
@@ -825,6 +825,9 @@ public final class HumanSteps {
                     masks[place] = grid.isOpen(cell) ? grid.candidates[cell] : 0;
                 }
                 int fit = fitItems(size);
+                if (Integer.bitCount(fit) < size) {
+                    continue;
+                }
                 for (int i = sets.start(size); i < sets.end(size); i++) {
                     int places = sets.get(i);
                     if (isCovered(places, fit, size)) {
@@ -845,6 +848,9 @@ public final class HumanSteps {
                     masks[symbol] = isOpenIn(house, symbol) ? grid.places(house, symbol) : 0;
                 }
                 int fit = fitItems(size);
+                if (Integer.bitCount(fit) < size) {
+                    continue;
+                }
                 for (int i = sets.start(size); i < sets.end(size); i++) {
                     int symbols = sets.get(i);
                     if (isCovered(symbols, fit, size)) {
@@ -866,6 +872,9 @@ public final class HumanSteps {
                     masks[line] = Integer.bitCount(places) >= 2 ? places : 0;
                 }
                 int fit = fitItems(size);
+                if (Integer.bitCount(fit) < size) {
+                    continue;
+                }
                 for (int i = sets.start(size); i < sets.end(size); i++) {
                     int lines = sets.get(i);
                     if (isCovered(lines, fit, size) && crossingAt(firstHouse, lines, symbol)) {
