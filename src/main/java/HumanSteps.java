@@ -32,6 +32,7 @@ public final class HumanSteps {
         if (!isOpenCandidate(cell, symbol)) {
             return false;
         }
+        // By way of the finding, so that one place alone says what a set cell takes.
         finding.clear();
         seeker.settle(cell, symbol);
         carryOut();

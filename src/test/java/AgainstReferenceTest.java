@@ -83,7 +83,10 @@ public final class AgainstReferenceTest {
                 break;
             default:
                 findAndCompare();
-                check.due("apply()", steps.apply(), reference.apply());
+                compare();
+                if (next(5) != 0) {
+                    check.due("apply()", steps.apply(), reference.apply());
+                }
                 break;
         }
         compare();

@@ -31,13 +31,17 @@ final class Check {
         }
     }
 
-    /** Just this class of exception, not one below it or above it. */
+    /**
+     * Just this class of exception, not one below it or above it, and thrown by the program: the
+     * machine's own tells its index in its text.
+     */
     void dueThrow(String call, Class<? extends RuntimeException> want, Call made) {
         asked++;
         try {
             made.make();
         } catch (RuntimeException e) {
-            if (e.getClass() != want) {
+            String text = String.valueOf(e.getMessage());
+            if (e.getClass() != want || text.startsWith("Index ")) {
                 tell(call + " threw " + e + ", due is " + want.getName());
             }
             return;

@@ -15,6 +15,7 @@ public final class PromisesTest {
         test.promise4Enable();
         test.promise5Find();
         test.promise5Broken();
+        test.promise5BrokenAnywhere();
         test.promise6Found();
         test.promise7Reason();
         test.promise8Goes();
@@ -122,6 +123,8 @@ public final class PromisesTest {
         dueSame("set() that was false", x, before);
         check.due("set(15, 0)", x.set(15, 0), true);
         dueNothingFound("set() that was true", x);
+        check.due("value(5), found but not done", x.value(5), -1);
+        check.due("candidates(1), found but not done", x.candidates(1), 12);
         check.due("apply() after set()", x.apply(), false);
     }
 
@@ -239,6 +242,22 @@ public final class PromisesTest {
             check.due("find() with no place", x.find(), -2);
         }
         check.due("find() of a grid that is done", solved().find(), -1);
+    }
+
+    /** Every cell without candidates, and every symbol without a place in every row. */
+    private void promise5BrokenAnywhere() {
+        for (int cell = 0; cell < 36; cell++) {
+            HumanSteps x = new HumanSteps(1);
+            Grids.leave(x, cell);
+            check.due("find() with cell " + cell + " empty", x.find(), -2);
+        }
+        for (int row = 0; row < 6; row++) {
+            for (int symbol = 0; symbol < 6; symbol++) {
+                HumanSteps x = new HumanSteps(1);
+                Grids.leaveInRow(x, row, symbol);
+                check.due("find() with no " + symbol + " in row " + row, x.find(), -2);
+            }
+        }
     }
 
     private static HumanSteps solved() {
