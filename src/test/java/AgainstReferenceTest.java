@@ -1,3 +1,5 @@
+import java.util.function.Supplier;
+
 /**
  * The same runs of calls on HumanSteps and on Reference, answer by answer, on grids that lead to each
  * of the nineteen steps. A fixed row of numbers picks the calls, so every run is the same.
@@ -53,6 +55,7 @@ public final class AgainstReferenceTest {
             takeSome(next(n * n * n * 5 / 2));
         }
         takeSome(next(2 * n));
+        findAndCompare();
         for (int round = 0; round < 10 && check.wrong() == 0; round++) {
             oneRound();
         }
@@ -81,6 +84,9 @@ public final class AgainstReferenceTest {
             case 5:
                 takeSome(1 + next(2 * n));
                 break;
+            case 6:
+                callAtTheEdges(edge(), edge());
+                break;
             default:
                 findAndCompare();
                 compare();
@@ -90,6 +96,42 @@ public final class AgainstReferenceTest {
                 break;
         }
         compare();
+    }
+
+    /** A number at the edge of some range of arguments, on either side of it. */
+    private int edge() {
+        int[] edges = {Integer.MIN_VALUE, -1, 0, 1, 2, 4, 5, n - 1, n, n * n - 1, n * n, 18, 19, 31, 32,
+            Integer.MAX_VALUE};
+        return edges[next(edges.length)];
+    }
+
+    private void callAtTheEdges(int a, int b) {
+        boolean on = next(2) == 0;
+        String of = "(" + a + ", " + b + ")";
+        dueAlike("candidates" + of, () -> steps.candidates(a), () -> reference.candidates(a));
+        dueAlike("value" + of, () -> steps.value(a), () -> reference.value(a));
+        dueAlike("done" + of, () -> steps.done(a), () -> reference.done(a));
+        dueAlike("found" + of, () -> steps.found(a), () -> reference.found(a));
+        dueAlike("reason" + of, () -> steps.reason(a), () -> reference.reason(a));
+        dueAlike("goes" + of, () -> steps.goes(a), () -> reference.goes(a));
+        dueAlike("state" + of, () -> steps.state(a), () -> reference.state(a));
+        dueAlike("words" + of, () -> steps.words(a, b), () -> reference.words(a, b));
+        dueAlike("set" + of, () -> steps.set(a, b), () -> reference.set(a, b));
+        dueAlike("take" + of, () -> steps.take(b, a), () -> reference.take(b, a));
+        dueAlike("enable" + of, () -> steps.enable(b, on), () -> reference.enable(b, on));
+        dueAlike("solve" + of, () -> steps.solve(b), () -> reference.solve(b));
+    }
+
+    private void dueAlike(String call, Supplier<Object> made, Supplier<Object> due) {
+        check.due(call, answerOf(made), answerOf(due));
+    }
+
+    private static String answerOf(Supplier<Object> call) {
+        try {
+            return String.valueOf(call.get());
+        } catch (RuntimeException e) {
+            return e.getClass().getName();
+        }
     }
 
     private void setSome(int count) {

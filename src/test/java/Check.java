@@ -6,11 +6,17 @@ final class Check {
     }
 
     private final String test;
+    private String subject = "";
     private int asked;
     private int wrong;
 
     Check(String test) {
         this.test = test;
+    }
+
+    /** What the answers that follow are about, told with each wrong one. */
+    void about(String what) {
+        subject = what + ": ";
     }
 
     void due(String call, long got, long want) {
@@ -49,6 +55,10 @@ final class Check {
         tell(call + " threw nothing, due is " + want.getName());
     }
 
+    int asked() {
+        return asked;
+    }
+
     int wrong() {
         return wrong;
     }
@@ -56,7 +66,7 @@ final class Check {
     private void tell(String text) {
         wrong++;
         if (wrong <= 50) {
-            System.out.println(test + ": " + text);
+            System.out.println(test + ": " + subject + text);
         }
     }
 
