@@ -195,7 +195,7 @@ public final class BoundaryFindingTest extends Boundary {
     void reasonOfMany() {
         HumanSteps x = Grids.made(2, LONG_REASON);
         check.due("find()", x.found(0), 17);
-        check.due("the reason", Grids.reason(x), "1 7 11 13 23 24 30 33 36 44 45 50 54 57 62 67 69 73 77");
+        check.due("the reason", Grids.reason(x), "0 7 11 13 23 24 30 33 37 44 46 50 55 57 62 67 69 72 77");
         check.due("reason(18)", x.reason(18), 77);
         check.due("reason(19)", x.reason(19), -1);
     }

@@ -1,3 +1,5 @@
+import java.util.Arrays;
+
 /** The boundary cases of the nineteen steps: one place too few or too many, set cells, what comes first. */
 public final class BoundaryStepsTest extends Boundary {
     public static void main(String[] args) {
@@ -473,6 +475,56 @@ public final class BoundaryStepsTest extends Boundary {
                 check.due("found(2)", x.found(2), isColumn ? 4 : 3);
             }
         }
+    }
+
+    /** The least cell is light, and of two colours that both clash the light one goes. */
+    @Sentence(promise = 0, says = "When two light ones see each other: the symbol is taken from all light ones")
+    void coloursThatBothClash() {
+        HumanSteps x = Grids.made(2, LONG_REASON);
+        check.due("what goes", Grids.goes(x), "8 125 224 278 404 422 503 629 701");
+        x = Grids.made(2, y -> Grids.leaveInRow(y, 0, 0, 0, 8), LONG_REASON);
+        check.due("what goes behind another symbol's links", Grids.goes(x), "8 125 224 278 404 422 503 629 701");
+    }
+
+    @Sentence(promise = 0, says = "By the first cell, then the lesser and the greater of the others.")
+    void wingsAnywhere() {
+        for (int first = 0; first < 36; first++) {
+            for (int lesser = 0; lesser < 36; lesser++) {
+                for (int greater = lesser + 1; greater < 36; greater++) {
+                    if (sees(first, lesser) && sees(first, greater) && !sees(lesser, greater)) {
+                        dueWing(15, first, lesser, greater);
+                        dueWing(16, first, lesser, greater);
+                    }
+                }
+            }
+        }
+    }
+
+    private void dueWing(int step, int first, int lesser, int greater) {
+        HumanSteps x = only(step, 1);
+        Grids.leave(x, first, step == 15 ? new int[] {0, 5} : new int[] {0, 3, 5});
+        Grids.leave(x, lesser, 0, 3);
+        Grids.leave(x, greater, 3, 5);
+        StringBuilder goes = new StringBuilder();
+        for (int cell = 0; cell < 36; cell++) {
+            boolean seesAll = sees(cell, lesser) && sees(cell, greater) && (step == 15 || sees(cell, first));
+            if (seesAll && cell != first) {
+                goes.append(goes.length() == 0 ? "" : " ").append(6 * cell + 3);
+            }
+        }
+        if (goes.length() == 0) {
+            dueNone("with no cell that sees the wing", x);
+        } else {
+            int[] three = {first, lesser, greater};
+            Arrays.sort(three);
+            due("from cell " + first, x, step, three[0] + " " + three[1] + " " + three[2], goes.toString());
+        }
+    }
+
+    /** On a grid of 6 by 6. */
+    private static boolean sees(int a, int b) {
+        boolean sameBox = a / 12 == b / 12 && a % 6 / 3 == b % 6 / 3;
+        return a != b && (a / 6 == b / 6 || a % 6 == b % 6 || sameBox);
     }
 
     @Sentence(promise = 0, says = "By the lesser row, the greater row, the lesser column, the greater.")

@@ -179,8 +179,8 @@ public final class BoundaryTellingTest extends Boundary {
 
     @Sentence(promise = 16, says = "Byte i of what is found in words")
     void wordsOfALongReason() {
-        String cells = " r1c2 r1c8 r2c3 r2c5 r3c6 r3c7 r4c4 r4c7 r5c1 r5c9"
-            + " r6c1 r6c6 r7c1 r7c4 r7c9 r8c5 r8c7 r9c2 r9c6";
+        String cells = " r1c1 r1c8 r2c3 r2c5 r3c6 r3c7 r4c4 r4c7 r5c2 r5c9"
+            + " r6c2 r6c6 r7c2 r7c4 r7c9 r8c5 r8c7 r9c1 r9c6";
         HumanSteps x = Grids.made(2, LONG_REASON);
         check.due("words(0, ..)", Grids.words(x, 0), "colours" + cells);
         check.due("words(1, ..)", Grids.words(x, 1), "Farben" + cells);
