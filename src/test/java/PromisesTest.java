@@ -386,7 +386,7 @@ public final class PromisesTest {
         String[] before = new String[6];
         int[] step = new int[6];
         for (int i = 0; i < 6; i++) {
-            before[i] = Grids.sight(x);
+            before[i] = Grids.cells(x);
             step[i] = x.find();
             check.due("a step is found", step[i] >= 0, true);
             x.apply();
@@ -394,9 +394,10 @@ public final class PromisesTest {
         check.due("find()", x.find(), -1);
         for (int i = 5; i >= 0; i--) {
             check.due("undo() of step " + i, x.undo(), step[i]);
-            dueSame("undo() of step " + i, x, before[i]);
+            check.due("the cells after undo() of step " + i, Grids.cells(x), before[i]);
+            check.due("state(4) after undo() of step " + i, x.state(4), i);
         }
-        x.find();
+        x = withLastFound();
         String found = Grids.sight(x);
         check.due("undo() of nothing", x.undo(), -1);
         dueSame("undo() of nothing", x, found);
