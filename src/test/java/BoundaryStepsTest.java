@@ -484,6 +484,13 @@ public final class BoundaryStepsTest extends Boundary {
         check.due("what goes", Grids.goes(x), "8 125 224 278 404 422 503 629 701");
         x = Grids.made(2, y -> Grids.leaveInRow(y, 0, 0, 0, 8), LONG_REASON);
         check.due("what goes behind another symbol's links", Grids.goes(x), "8 125 224 278 404 422 503 629 701");
+        x = only(17, 2);
+        int[][] columns = {{1, 7}, {2, 4}, {5, 6}, {3, 6}, {0, 8}, {0, 5}, {0, 3, 8}, {4, 6}, {1, 5}};
+        for (int row = 0; row < 9; row++) {
+            Grids.leaveInRow(x, row, 8, columns[row]);
+        }
+        due("without the first cell", x, 17, "1 7 11 13 23 24 30 33 36 44 45 50 54 57 62 67 69 73 77",
+            "17 125 224 278 404 413 494 629 701");
     }
 
     @Sentence(promise = 0, says = "By the first cell, then the lesser and the greater of the others.")
