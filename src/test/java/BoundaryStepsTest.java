@@ -493,6 +493,18 @@ public final class BoundaryStepsTest extends Boundary {
             "17 125 224 278 404 413 494 629 701");
     }
 
+    /** Cell 33 is the last one that symbol 0 joins and the least one that symbol 1 joins. */
+    @Sentence(promise = 0, says = "Of the cells joined by links (two or more), by the least one")
+    void coloursBehindAnotherSymbol() {
+        HumanSteps x = only(17, 2);
+        Grids.leaveInRow(x, 3, 0, 3, 6);
+        dueNone("with links of symbol 0 that take nothing", x);
+        Grids.leaveInColumn(x, 0, 1, 4, 5);
+        due("with cells 36 and 45 joined", x, 17, "36 45", "253 262 334 343 415 424");
+        Grids.leaveInColumn(x, 6, 1, 3, 4);
+        due("with cells 33 and 42 joined too", x, 17, "33 42", "307 316 388 397 469 478");
+    }
+
     @Sentence(promise = 0, says = "By the first cell, then the lesser and the greater of the others.")
     void wingsAnywhere() {
         for (int first = 0; first < 36; first++) {
